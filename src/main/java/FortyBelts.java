@@ -133,9 +133,6 @@ public final class FortyBelts {
     }
 
     public int belt(int kind, int shafts, int drums, int grip) {
-        if (shafts < 0 || drums < 0) {
-            return BAD;
-        }
         int driver = shafts / 10;
         int driven = shafts % 10;
         int driverDrum = drums / 100;
@@ -776,7 +773,9 @@ public final class FortyBelts {
     private static final class Mill {
         static final int SHAFTS = 8, MACHINES = 10, DRUMS = 12, BELTS = 7;
         private static final int MOST_CUT_TURNS = 1000000;
-        /** More steps than the two numbers of a long's size can need. */
+        /** All shafts, as bits. */
+        private static final int ALL = (1 << SHAFTS) - 1;
+        /** Above what the common divisor of two longs can need. */
         private static final int MOST_DIVISIONS = 200;
 
         int shaftCount, machineCount, drumCount, beltCount;
@@ -784,7 +783,7 @@ public final class FortyBelts {
         private final int[] bends = new int[SHAFTS];
         /** By shaft: the belt that drives it, on or off; NONE. */
         final int[] drivenBy = new int[SHAFTS];
-        /** By shaft: its turns as a fraction, not in lowest terms: below 1000 * 101^7, so a long holds it. */
+        /** By shaft: its turns as a fraction, not in lowest terms: under 1000 * 101^7, so a long holds it. */
         final long[] above = new long[SHAFTS];
         final long[] below = new long[SHAFTS];
         final int[] ways = new int[SHAFTS];
@@ -800,6 +799,7 @@ public final class FortyBelts {
             places[shaftCount] = place;
             bends[shaftCount] = bending;
             drivenBy[shaftCount] = NONE;
+            below[shaftCount] = 1;
             return shaftCount++;
         }
 
@@ -865,11 +865,10 @@ public final class FortyBelts {
                 ways[shaft] = 0;
             }
             above[0] = engineTurns;
-            below[0] = 1;
             ways[0] = 1;
             for (int i = 0; i < beltCount; i++) {
                 Belt belt = belts[order[i]];
-                if (belt.on && above[belt.driver] > 0) {
+                if (belt.on) {
                     above[belt.driven] = above[belt.driver] * belt.above();
                     below[belt.driven] = below[belt.driver] * belt.below();
                     ways[belt.driven] = ways[belt.driver] * belt.way();
@@ -922,7 +921,7 @@ public final class FortyBelts {
 
         /** The machines (bits) that are on. */
         int switchedOn() {
-            return machinesOn((1 << SHAFTS) - 1);
+            return machinesOn(ALL);
         }
 
         /** The machines (bits) that are on, on some shafts (bits). */
@@ -937,7 +936,7 @@ public final class FortyBelts {
         }
 
         int loadedInAll() {
-            return loadedOn((1 << SHAFTS) - 1);
+            return loadedOn(ALL);
         }
 
         /** What the machines on some shafts (bits) load, together. */
@@ -1239,7 +1238,6 @@ public final class FortyBelts {
 
         void clear() {
             stepCount = 0;
-            Arrays.fill(ends, 0);
         }
 
         void addNumber(int number) {
@@ -1283,7 +1281,7 @@ public final class FortyBelts {
         private void work(int sign) {
             int right = pop();
             switch (sign) {
-                case NOT: push(asBit(right == 0)); break;
+                case NOT: push(right == 0 ? 1 : 0); break;
                 case MINUS: push(-right); break;
                 default: push(joined(pop(), sign, right)); break;
             }
@@ -1291,10 +1289,10 @@ public final class FortyBelts {
 
         private static int joined(int left, int sign, int right) {
             switch (sign) {
-                case OR: return asBit(left != 0 || right != 0);
-                case AND: return asBit(left != 0 && right != 0);
-                case '<': return asBit(left < right);
-                case '=': return asBit(left == right);
+                case OR: return left != 0 || right != 0 ? 1 : 0;
+                case AND: return left != 0 && right != 0 ? 1 : 0;
+                case '<': return left < right ? 1 : 0;
+                case '=': return left == right ? 1 : 0;
                 case '+': return left + right;
                 case '-': return left - right;
                 default: return left * right;
@@ -1529,11 +1527,11 @@ public final class FortyBelts {
         }
 
         private static boolean isDigit(int sign) {
-            return within(sign, '0', '9');
+            return '0' <= sign && sign <= '9';
         }
 
         private static boolean isLetter(int sign) {
-            return within(sign, 'a', 'z');
+            return 'a' <= sign && sign <= 'z';
         }
     }
 

@@ -84,6 +84,18 @@ public final class FollowsTest {
     Due.due("by belts on or off", x.judge(), 4001);
     x.change(1, 1, 0);
     Due.due("drums 2, 3 are on two", x.judge(), 4002);
+    x.change(1, 0, 1);
+    Due.due("drum 1 too", x.judge(), 4001);
+    x.change(2, 1, 0);
+    Due.due("drum 0 too, at driven ends", x.judge(), 4000);
+    FortyBelts y = Due.shafts(4);
+    Due.sizes(y, 10, 10, 10, 10, 10);
+    y.belt(0, 1, 1, 9);
+    y.belt(0, 2, 203, 9);
+    y.belt(0, 3, 104, 9);
+    Due.due("one drum, on the first and the last", y.judge(), 4001);
+    y.change(2, 0, 0);
+    Due.due("one drum, at ends that drive", y.judge(), 4000);
   }
 
   private static void chosen() {
@@ -164,6 +176,9 @@ public final class FollowsTest {
     x.change(4, 1, 0);
     Due.due("two ends that stay", x.choose(0), -1);
     x.change(4, 1, 9);
+    x.change(4, 0, 0);
+    Due.due("two ends that stay, both drive", x.choose(0), -1);
+    x.change(4, 0, 8);
     x.throwsOn(0, 0);
     x.change(0, 0, 9);
     Due.due("two ends that stay, one off", x.choose(0), -1);
@@ -175,6 +190,11 @@ public final class FollowsTest {
     Due.due("the first keeps it", x.choose(10), 1);
     Due.due("the other has what is left", x.choose(12), 5);
     FortyBelts y = Due.shafts(3);
+    Due.sizes(y, 1, 2);
+    y.belt(0, 1, 100, 9);
+    Due.due("drum 0", y.choose(10), 0);
+    Due.due("drum 0", y.choose(1), 0);
+    y = Due.shafts(3);
     Due.sizes(y, 1, 2, 3);
     y.belt(0, 1, 1, 9);
     y.belt(0, 2, 201, 9);
@@ -312,6 +332,7 @@ public final class FollowsTest {
     Due.still("just the power", Due::hall, y -> y.bite(1, 415), 0);
     Due.still("a little above it", Due::hall, y -> y.bite(1, 416), 0);
     Due.still("one minds", Due::hall, y -> y.bite(1, 440), 8);
+    Due.still("a fall of 5 is not minded", Due::hall, y -> y.bite(1, 445), 8);
     Due.still("two mind", Due::hall, y -> y.bite(1, 450), 12);
     Due.still("not itself", Due::hall, y -> y.bite(3, 300), 6);
     Due.still("one that is off bites not", Due::hall, y -> y.bite(0, 9999), 0);
@@ -454,6 +475,12 @@ public final class FollowsTest {
     Due.due("not one that stands", x.save(), 10);
     x.throwsOn(0, 0);
     Due.due("none turns", x.save(), 0);
+    FortyBelts y = Due.shafts(3);
+    Due.sizes(y, 1, 99);
+    y.engine(0, 1);
+    y.belt(0, 1, 1, 9);
+    y.belt(0, 12, 1, 9);
+    Due.due("turns below 1", y.save(), 6);
   }
 
   private static void imageKept() {
@@ -480,6 +507,11 @@ public final class FollowsTest {
 
   private static void imageAndWhatCameSince() {
     Due.promise(27);
+    FortyBelts r = Due.rule(Due.hall(), "5", "1", "1");
+    r.image();
+    r.force(0);
+    r.back();
+    Due.due("a rule that is not the first", r.count(6), 1);
     FortyBelts x = Due.hall();
     x.throwsOn(2, 0);
     x.image();

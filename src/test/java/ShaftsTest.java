@@ -170,6 +170,13 @@ public final class ShaftsTest {
     Due.due("belts", x.count(3), 7);
     Due.due("turns of the last", x.turns(7, 0), 25);
     Due.due("turns of the last, below", x.turns(7, 1), 32);
+    FortyBelts y = Due.shafts(8);
+    Due.sizes(y, 2, 1);
+    for (int i = 7; i > 0; i--) Due.due("belt", y.belt(1, 10 * (i - 1) + i, 1, 999), 7 - i);
+    for (int i = 1; i < 8; i++) Due.due("turns, the last belt added first", y.turns(i, 0), 100 << i);
+    y.machine(7, 1, 9999, 7);
+    for (int i = 0; i < 7; i++) Due.due("pull, the last belt added first", y.told(i, 9), 128);
+    for (int i = 0; i < 7; i++) Due.due("hours of machine 0", y.told(i, 11), 128 * 7);
   }
 
   private static void beltsRefused() {
@@ -240,6 +247,13 @@ public final class ShaftsTest {
 
   private static void beltsThatSlip() {
     FortyBelts x = Due.hall();
+    x.engine(0, 25);
+    x.set(3, 0, 939);
+    Due.due("pull", x.told(2, 9), 939);
+    Due.due("just what a great grip holds", x.told(2, 10), 0);
+    x.set(3, 0, 940);
+    Due.due("one above", x.told(2, 10), 1);
+    x = Due.hall();
     x.set(2, 0, 44);
     Due.due("pull", x.told(1, 9), 44);
     Due.due("just what it grips", x.told(1, 10), 0);

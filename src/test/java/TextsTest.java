@@ -5,6 +5,7 @@ public final class TextsTest {
     textsAdded();
     faultsOfGrammar();
     faultsOfTokens();
+    faultsOfTapes();
     faultsOfDepth();
     valuesOfSigns();
     valuesBound();
@@ -86,6 +87,8 @@ public final class TextsTest {
     Due.due("more after the end", read("wear 1 ; mind 1 ; want 1 ; wear 1 ;"), -127);
     Due.due("mind first", read("mind 1 ; wear 1 ; want 1 ;"), -100);
     Due.due("wear twice", read("wear 1 ; wear 1 ; want 1 ;"), -109);
+    Due.due("a name first", read("kind 1 ; mind 1 ; want 1 ;"), -100);
+    Due.due("wear for an E", read("wear wear ; mind 1 ; want 1 ;"), -105);
     Due.due("want second", read("wear 1 ; want 1 ; mind 1 ;"), -109);
     Due.due("no E", read("wear ;"), -105);
     Due.due("a key for an E", read("wear want ;"), -105);
@@ -123,6 +126,9 @@ public final class TextsTest {
     Due.due("a word that is shorter", read("wear kin ;"), -105);
     Due.due("a word of all keys", read("wearmindwant ;"), -100);
     Due.due("a word where a sign is due", read("wear 1 orr 2 ;"), -107);
+    Due.due("a word that is none in a bracket", read("wear (x) ;"), -106);
+    Due.due("a word that is none behind -", read("wear - x 1 ;"), -107);
+    Due.due("a word that is none behind not", read("wear not x 1 ;"), -109);
     Due.due("a word of six", read("wear hoursx ;"), -105);
     Due.due("a word and a number", read("wear kind2 ;"), -109);
     Due.due("a number and a word", read("wear 2kind ;"), -106);
@@ -136,6 +142,27 @@ public final class TextsTest {
     Due.due("a byte 128 + 32", read("wear 1 \u00a0 ;"), -107);
     for (char c : ">!/.:,_[]{}%&|~".toCharArray()) Due.due("a sign " + c, read("wear 1 " + c), -107);
     Due.due("a byte that begins none, behind the end", read("wear 1;mind 1;want 1;?"), -121);
+  }
+
+  /** What stood on the tape ahead doesn't matter. */
+  private static void faultsOfTapes() {
+    FortyBelts x = new FortyBelts();
+    Due.due("a long word", Due.feed(x, "wear kindkindkind 12345678").text(), -105);
+    Due.due("the beginning of it", Due.feed(x, "wear kind").text(), -109);
+    Due.due("a long number", Due.feed(x, "wear 123456789").text(), -105);
+    Due.due("the beginning of it", Due.feed(x, "wear 123").text(), -108);
+    Due.due("a number at the tape's end", Due.feed(x, " ".repeat(154) + "wear 1").text(), -260);
+    Due.due("a word at the tape's end", Due.feed(x, " ".repeat(151) + "wear kind").text(), -260);
+    for (int i = 0; i < 5; i++) Due.feed(x, "wear 1" + "+1".repeat(70)).text();
+    Due.due("a right text after many faults", Due.feed(x, "wear 1+2;mind 3+4;want 5+6;").text(), 1);
+    FortyBelts y = Due.hall();
+    for (int i = 0; i < 5; i++) Due.feed(y, "wear 1" + "+1".repeat(70)).text();
+    Due.due("what it says", Due.rule(y, "1 + 2", "1", "1").told(0, 11), 3);
+    String most = "wear 1" + "+1".repeat(66) + ";mind 1;want 1;";
+    Due.due("a text of many values", Due.rule(Due.hall(), "1" + "+1".repeat(60), "1", "1").told(0, 11), 61);
+    FortyBelts z = Due.feed(Due.hall(), most);
+    z.force(z.text());
+    Due.due("a text of most values", z.told(0, 11), 67);
   }
 
   private static void faultsOfDepth() {
@@ -220,6 +247,12 @@ public final class TextsTest {
       FortyBelts x = Due.rule(Due.hall(), "1", mind, "1");
       x.engine(1, 100);
       Due.due("mind " + mind, x.bite(1, 15) >> 2 & 1, 1);
+    }
+    for (String name : new String[] {"kind", "size"}) {
+      FortyBelts after = Due.rule(Due.hall(), "1", name, "1");
+      after.engine(1, 1);
+      after.told(2, 11);
+      Due.due("mind " + name + ", after wear", after.bite(1, 9), 0);
     }
     FortyBelts x = Due.rule(Due.hall(), "1", "wrap = 33", "1");
     x.engine(1, 113);
