@@ -11,30 +11,6 @@ public final class HostTest {
     Due.end();
   }
 
-  /** What is at a place of a row of numbers 1 .. 99, seen by a drum of that size on a belt; 0, if it is no size. */
-  private static int item(FortyBelts x, int sheet, int sort, int i) {
-    if (x.drums(sheet, sort, i, 1) != 1) return 0;
-    int drum = x.count(2) - 1;
-    x.change(0, 0, 0);
-    x.change(0, 1, drum);
-    for (int size = 1; size < 100; size++) if (x.told(0, 8) == 3 * (2 + size) / 2) return size;
-    return -1;
-  }
-
-  /** One belt, with a drum of size 2 on the end that drives. */
-  private static FortyBelts bench() {
-    FortyBelts x = new FortyBelts();
-    x.shaft(0, 1);
-    x.shaft(0, 1);
-    Due.sizes(x, 2, 1);
-    x.belt(0, 1, 1, 1);
-    return x;
-  }
-
-  private static void items(String call, FortyBelts x, int sheet, int sort, int... want) {
-    for (int i = 0; i < want.length; i++) Due.due(call + ", item " + i, item(x, sheet, sort, i), want[i]);
-  }
-
   private static void sheetsMade() {
     Due.promise(29);
     FortyBelts x = new FortyBelts();
@@ -60,18 +36,18 @@ public final class HostTest {
 
   private static void cellsSet() {
     Due.promise(30);
-    FortyBelts x = bench();
+    FortyBelts x = Due.bench();
     for (int sort = 0; sort < 3; sort++) Due.sheetOf(x, sort, sort, 256 + 41, 65536 + 43, -65536 + 47, -256 + 53);
-    items("bytes", x, 0, 0, 41, 43, 47, 53);
-    x = bench();
+    Due.items("bytes", x, 0, 0, 41, 43, 47, 53);
+    x = Due.bench();
     Due.sheetOf(x, 1, 1, 256 + 41, 65536 + 43, -65536 + 47, 65536 * 3 + 53);
-    items("shorts", x, 1, 1, 0, 43, 47, 53);
-    x = bench();
+    Due.items("shorts", x, 1, 1, 0, 43, 47, 53);
+    x = Due.bench();
     Due.sheetOf(x, 2, 2, 256 + 41, 65536 + 43, 99, Integer.MIN_VALUE + 5, 61);
-    items("ints", x, 2, 2, 0, 0, 99, 0, 61);
-    x = bench();
+    Due.items("ints", x, 2, 2, 0, 0, 99, 0, 61);
+    x = Due.bench();
     Due.sheetOf(x, 0, 0, 128 + 5, 255, 1);
-    items("bytes have a sign", x, 0, 0, 0, 0, 1);
+    Due.items("bytes have a sign", x, 0, 0, 0, 0, 1);
     int[][] outside = {{0, -1}, {0, 3}, {1, 3}, {2, Integer.MAX_VALUE}, {2, Integer.MIN_VALUE}};
     for (int[] o : outside) Due.still("cell(" + o[0] + ", " + o[1] + ")", Due::busy, y -> y.cell(o[0], o[1], 5), -12);
     for (int sheet : new int[] {-1, 4}) Due.still("cell of sheet " + sheet, Due::busy, y -> y.cell(sheet, 0, 5), -2);
@@ -80,20 +56,20 @@ public final class HostTest {
 
   private static void rowsCopied() {
     Due.promise(31);
-    FortyBelts x = bench();
+    FortyBelts x = Due.bench();
     Due.sheetOf(x, 0, 2, 11, 12, 13, 14, 15);
     Due.due("onto itself, upwards", x.copy(0, 0, 0, 1, 4), 4);
-    items("upwards", x, 0, 2, 11, 11, 12, 13, 14);
-    x = bench();
+    Due.items("upwards", x, 0, 2, 11, 11, 12, 13, 14);
+    x = Due.bench();
     Due.sheetOf(x, 0, 1, 11, 12, 13, 14, 15);
     Due.due("onto itself, downwards", x.copy(0, 2, 0, 0, 3), 3);
-    items("downwards", x, 0, 1, 13, 14, 15, 14, 15);
-    x = bench();
+    Due.items("downwards", x, 0, 1, 13, 14, 15, 14, 15);
+    x = Due.bench();
     Due.sheetOf(x, 1, 0, 11, 12, 13);
     Due.sheetOf(x, 3, 0, 21, 22, 23, 24);
     Due.due("to another one", x.copy(1, 1, 3, 2, 2), 2);
-    items("the other one", x, 3, 0, 21, 22, 12, 13);
-    items("the one", x, 1, 0, 11, 12, 13);
+    Due.items("the other one", x, 3, 0, 21, 22, 12, 13);
+    Due.items("the one", x, 1, 0, 11, 12, 13);
     Due.due("none", x.copy(1, 0, 3, 0, 0), 0);
     Due.due("none from the end on", x.copy(1, 3, 3, 4, 0), 0);
     Due.due("all", x.copy(1, 0, 3, 1, 3), 3);
@@ -137,9 +113,9 @@ public final class HostTest {
     Due.due("till full", x.drums(1, 1, 0, 12), 6);
     Due.due("full", x.drums(1, 1, 0, 12), 0);
     Due.due("full, and outside", x.drums(1, 1, 1, 12), -12);
-    FortyBelts y = bench();
+    FortyBelts y = Due.bench();
     Due.sheetOf(y, 2, 2, 31, 37, 41);
-    items("their sizes", y, 2, 2, 31, 37, 41);
+    Due.items("their sizes", y, 2, 2, 31, 37, 41);
   }
 
   private static void drumsRefused() {
