@@ -877,9 +877,10 @@ public final class FortyBelts {
         }
 
         int cutTurns(int shaft) {
-            return (int) Math.min(MOST_CUT_TURNS, above[shaft] / below[shaft]);
+            return (int) Math.min(MOST_CUT_TURNS, above[shaft] / Math.max(1, below[shaft]));
         }
 
+        /** The greatest one of both parts of a shaft's turns, and 1 at least. */
         long commonDivisor(int shaft) {
             long larger = above[shaft];
             long smaller = below[shaft];
@@ -888,7 +889,7 @@ public final class FortyBelts {
                 larger = smaller;
                 smaller = rest;
             }
-            return larger;
+            return Math.max(1, larger);
         }
 
         /** How far the shafts of a belt are from each other. */

@@ -83,6 +83,21 @@ public final class FollowEdgesTest {
     }
   }
 
+  static void promise16_theFirstOfSharedDrums() {
+    FortyBelts x = star(3);
+    x.change(0, 1, 5);
+    Due.answers(x, 4005, "judge");
+    x.change(2, 0, 1);
+    Due.answers(x, 4005, "judge");
+    x.change(1, 0, 6);
+    x.change(2, 0, 6);
+    Due.answers(x, 4005, "judge");
+    x.change(0, 1, 3);
+    Due.answers(x, 4003, "judge");
+    x.change(1, 1, 0);
+    Due.answers(x, 4000, "judge");
+  }
+
   static void promise16_itStallsAboveItsPower() {
     FortyBelts x = wide(1);
     x.machine(0, 1, 9999, 1);
@@ -157,6 +172,23 @@ public final class FollowEdgesTest {
     FortyBelts x = Due.hall();
     x.change(1, 0, 0);
     return x;
+  }
+
+  /** Belts 0 and 2 would have other drums. */
+  private static FortyBelts toBeChosen() {
+    FortyBelts x = Due.hall();
+    x.change(2, 1, 6);
+    x.change(0, 1, 5);
+    return x;
+  }
+
+  static void promise17_itIsNotLaidYet() {
+    Due.refused(FollowEdgesTest::toBeChosen, 4, "choose", 0);
+    Due.refused(FollowEdgesTest::toBeChosen, 2, "choose", 1);
+    Due.refused(FollowEdgesTest::toBeChosen, 1, "choose", 10);
+    Due.refused(FollowEdgesTest::toBeChosen, 3, "choose", 11);
+    Due.refused(FollowEdgesTest::toBeChosen, 5, "choose", 12);
+    Due.answers(toBeChosen(), 2, "lay");
   }
 
   static void promise17_badIsAheadOfNone() {
@@ -762,6 +794,18 @@ public final class FollowEdgesTest {
     Due.answers(x, 130, "save");
     x.throwsOn(6, 0);
     Due.answers(x, 2, "save");
+  }
+
+  /** Shaft 2 turns once by 99 times 99 of the engine's. */
+  static void promise25_turnsBelowOne() {
+    FortyBelts x = wide(3);
+    Due.sizes(x, 1, 99);
+    x.belt(0, 1, 1, 9);
+    x.belt(0, 12, 1, 9);
+    x.engine(0, 1);
+    Due.answers(x, 6, "save");
+    x.machine(2, 1, 9999, 1);
+    Due.answers(x, 0, "save");
   }
 
   static void promise25_aMachineThatIsOnHangsOnIt() {

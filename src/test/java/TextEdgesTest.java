@@ -363,6 +363,18 @@ public final class TextEdgesTest {
     open(0, "", "", true);
   }
 
+  static void promise14_aBracketHasAnEIn() {
+    fault(7, "wear ( ) ; mind 1 ; want 1 ;");
+    fault(8, "wear (1 ; mind 1 ; want 1 ;");
+    fault(8, "wear (1 2) ; mind 1 ; want 1 ;");
+    fault(7, "wear (1(2)) ; mind 1 ; want 1 ;");
+    fault(11, "wear ((1 ) ; mind 1 ; want 1 ;");
+    fault(8, "wear (1)) ; mind 1 ; want 1 ;");
+    fault(5, "wear )1( ; mind 1 ; want 1 ;");
+    fault(8, "wear (1 mind 1 ; want 1 ;");
+    right("wear (1 or 2 and not 3 < 4 + 5 * -6) ; mind (1) ; want ((1)) ;");
+  }
+
   /** Ones that are closed leave their room to others. */
   static void promise14_aBracketIsOpenTillItsEnd() {
     right("wear (((((1)))))*(((((2)))))" + REST);
@@ -456,6 +468,17 @@ public final class TextEdgesTest {
     says(8, "5 + (1 < 2) + (1 = 1) + (not 0)");
   }
 
+  static void promise14_orAndNotLessAndLikeAre1Or0() {
+    for (String is : new String[] {"not 0", "7 or 0", "0 or 7", "7 or 7", "7 and 8", "7 < 8", "7 = 7", "not not 7"}) {
+      says(6, "5 + (" + is + ")");
+      says(4, "5 - (" + is + ")");
+    }
+    for (String isNot : new String[] {"not 7", "0 or 0", "0 and 7", "7 and 0", "0 and 0", "8 < 7", "7 < 7", "7 = 8", "not not 0"}) {
+      says(5, "5 + (" + isNot + ")");
+      says(5, "5 - (" + isNot + ")");
+    }
+  }
+
   static void promise14_whatWantSaysIs1To999() {
     String[] says = {"0 - 1", "0", "1", "2", "998", "999", "999 + 1", "9999 * 9999", "- 9999 * 9999"};
     int[] want = {1, 1, 1, 2, 998, 999, 999, 999, 1};
@@ -484,6 +507,24 @@ public final class TextEdgesTest {
     // 1063 loaded, 63 above the power: of 100 turns 5.9; 1064: 6.01.
     Due.answers(x, 0, "bite", 1, 113);
     Due.answers(x, 1, "bite", 1, 114);
+  }
+
+  /** Drums of sizes 1 and 1, 99 and 99; 24 hours of machines that are on, none of those that are off or on no belt. */
+  static void promise14_namesOfWearAtTheirEdges() {
+    for (int kind = 0; kind < 6; kind++) {
+      FortyBelts x = Due.rule(Due.shafts(2), "kind*1000+size*10+(hours=24)*5+(wrap=10)*2", "1", "1");
+      Due.sizes(x, 1, 1, 99, 99);
+      x.belt(kind, 1, 1, 9);
+      x.machine(0, 1, 9999, 24);
+      Due.answers(x, 1000 * kind + 20, "told", 0, 11);
+      x.machine(1, 0, 9999, 24);
+      x.machine(1, 0, 9999, 0);
+      x.change(0, 0, 2);
+      Due.answers(x, 1000 * kind + 1000 + 5 + (kind % 3 == 0 ? 2 : 0), "told", 0, 11);
+      x.change(0, 1, 3);
+      x.set(1, 2, 0);
+      Due.answers(x, Math.min(9999, 1000 * kind + 1980), "told", 0, 11);
+    }
   }
 
   static void promise14_turnsInATextAreCut() {
