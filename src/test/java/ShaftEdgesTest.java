@@ -41,6 +41,31 @@ public final class ShaftEdgesTest {
     Due.answers(y, -11, "cell", 0, 0, 1);
   }
 
+  static void promise01_aConstantEach() {
+    Due.due("NONE", FortyBelts.NONE, -1);
+    Due.due("BAD", FortyBelts.BAD, -2);
+    Due.due("STATE", FortyBelts.STATE, -3);
+    Due.due("FULL", FortyBelts.FULL, -4);
+    Due.due("NO", FortyBelts.NO, -4611686018427387904L);
+  }
+
+  /** 36 calls make all that there can be; 475 more are refused or take back what they did. */
+  static void promise01_itIsUsedFor512Calls() {
+    FortyBelts x = new FortyBelts();
+    for (int i = 0; i < 8; i++) x.shaft(i, 100);
+    for (int i = 0; i < 12; i++) x.drum(10);
+    for (int i = 0; i < 6; i++) x.belt(0, i + 1, 202 * i + 1, 99);
+    for (int i = 0; i < 10; i++) x.machine(1, 10, 1000100, 24);
+    for (int i = 0; i < 475; i += 5) {
+      Due.answers(x, 1, "throwsOn", 0, 0);
+      Due.answers(x, 0, "throwsOn", 0, 1);
+      Due.answers(x, FULL, "drum", 1);
+      Due.answers(x, -100, "text");
+      Due.answers(x, 0, "choose", 1);
+    }
+    Due.answers(x, 2000, "judge");
+  }
+
   // ---- promise 2
 
   static void promise02_aPlaceIs0To99() {
