@@ -595,6 +595,30 @@ public final class FollowEdgesTest {
     Due.answers(x, 4, "bite", 0, 9999);
   }
 
+  /** A machine minds by its LOAD, not by what it loads at its turns. */
+  static void promise22_whatAMachineMindsByIsNotWhatItLoads() {
+    FortyBelts x = Due.rule(wide(1), "1", "load = 900 and turns = 50", "1");
+    x.engine(0, 50);
+    x.machine(0, 900, 9999, 1);
+    x.machine(0, 900, 9999, 1);
+    Due.answers(x, 0, "bite", 0, 200);
+    Due.answers(x, 2, "bite", 0, 202);
+  }
+
+  /** At 50 turns a load of 1 loads nothing; one more loads 1. */
+  static void promise22_moreComesToItsLoadAheadOfTheCut() {
+    FortyBelts x = Due.rule(wide(1), "1", "1", "1");
+    x.engine(0, 50);
+    x.engine(1, 1);
+    x.machine(0, 1, 9999, 1);
+    x.machine(0, 2, 9999, 1);
+    Due.answers(x, 1, "runs", 2);
+    Due.answers(x, 0, "bite", 0, 0);
+    Due.answers(x, 2, "bite", 0, 1);
+    Due.answers(x, 0, "bite", 1, 1);
+    Due.answers(x, 1, "bite", 1, 2);
+  }
+
   // ---- promise 23
 
   static void promise23_aBeltThatIsThere() {
@@ -669,6 +693,13 @@ public final class FollowEdgesTest {
     x.machine(7, 1, 9999, 1);
     Due.answers(x, 6, "years", 0, 1, 1);
     Due.answers(x, 1, "years", 6, 1, 0);
+  }
+
+  static void promise23_oneThatIsOffWearsAsTheRuleSays() {
+    FortyBelts x = Due.rule(Due.hall(), "7", "1", "1");
+    x.throwsOn(0, 0);
+    Due.answers(x, 0, "years", 2, 50, 1);
+    Due.answers(x, 8, "years", 0, 50, 0);
   }
 
   // ---- promise 24
@@ -933,6 +964,19 @@ public final class FollowEdgesTest {
     Due.answers(x, 1, "cell", 0, 1, 6);
     x.force(1);
     Due.answers(x, 7, "told", 0, 11);
+  }
+
+  static void promise27_whatCameSinceStaysOn() {
+    FortyBelts x = star(1);
+    x.machine(0, 1, 9999, 5);
+    x.image();
+    x.shaft(0, 1);
+    x.belt(0, 2, 203, 77);
+    x.machine(0, 9, 9999, 1);
+    Due.answers(x, 2, "back");
+    Due.answers(x, 1, "told", 1, 5);
+    Due.answers(x, 10, "runs", 2);
+    Due.answers(x, 1, "set", 1, 2, 1);
   }
 
   // ---- promise 28

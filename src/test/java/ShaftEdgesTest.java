@@ -609,6 +609,24 @@ public final class ShaftEdgesTest {
     Due.answers(x, 1000 + 1, "told", 1, 11);
   }
 
+  static void promise10_oneThatIsOffKeepsAllButItsPull() {
+    FortyBelts x = Due.hall();
+    x.throwsOn(1, 0);
+    int[] want = {1, 1, 2, 2, 3, 0, -1, 55, 152, 0, 0, 0};
+    for (int what = 0; what < want.length; what++) Due.answers(x, want[what], "told", 1, what);
+  }
+
+  /** Belt 1 is on, though the shaft that drives it stands. */
+  static void promise10_hoursOfOneThatIsOnThoughItStands() {
+    FortyBelts x = Due.rule(Due.hall(), "1000 * hours + load + turns", "1", "1");
+    x.throwsOn(0, 0);
+    Due.answers(x, 9999, "told", 1, 11);
+    x.set(2, 1, 3);
+    Due.answers(x, 3000, "told", 1, 11);
+    Due.answers(x, 6000, "told", 2, 11);
+    Due.answers(x, 100, "told", 0, 11);
+  }
+
   static void promise10_aTwistIsTurnedTwice() {
     int[] ways = {1, -1, 1, 1, 1, 1};
     for (int kind = 0; kind < KINDS; kind++) {
